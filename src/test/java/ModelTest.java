@@ -6,7 +6,7 @@ public final class ModelTest {
     private static final int CALLS = 512;
     private static final int RUNS = 500;
     private static final int[] ODD_NUMBERS = {
-        Integer.MIN_VALUE, Integer.MIN_VALUE + 1, -33, -32, -31, -8, -2, -1,
+        Integer.MIN_VALUE, Integer.MIN_VALUE + 1, -33, -32, -31, -8, -2, -1, 0,
         7, 8, 9, 16, 31, 32, 33, 34, 64, 96, 128, 256, Integer.MAX_VALUE - 1, Integer.MAX_VALUE};
     // The share of each call in a run, in the order of the document's face; each row is a kind of run.
     private static final int[][] SHARES = {

@@ -3,7 +3,7 @@ public final class PromisesTest {
     private static final int LOWEST = Integer.MIN_VALUE;
     private static final int HIGHEST = Integer.MAX_VALUE;
     private static final int[] NO_DEADLINES = {LOWEST, -8, -1, 0, 9, 10, 32, 33, HIGHEST};
-    // Held against a planner whose tasks are 0, 1 and 2; 31 to 35 would pass for tasks where a shift wraps.
+    // Held against a planner whose tasks are 0, 1 and 2; 32, 33, 34 and 64 would pass for tasks where a shift wraps.
     private static final int[] NO_TASKS = {LOWEST, -32, -31, -1, 3, 6, 7, 8, 31, 32, 33, 34, 64, HIGHEST};
 
     public static void main(String[] args) {
