@@ -22,6 +22,14 @@ final class Check {
         }
     }
 
+    static void due(String what, String got, String want) {
+        looked++;
+        if (!got.equals(want)) {
+            wrong++;
+            System.out.println(what + " answered\n    " + got + "\n  due is\n    " + want);
+        }
+    }
+
     static int wrong() {
         return wrong;
     }
