@@ -4,6 +4,7 @@
  */
 public final class SmallPlansTest {
     private static final int TASKS = 3;
+    // Three tasks never need a fourth slot, so that a plan with 4 to 7 is like one with 8.
     private static final int[] DEADLINES = {1, 2, 3, 8};
 
     // The plan that is looked at: the tasks and the links as bits, the deadlines as digits, each a place in DEADLINES.
